@@ -229,19 +229,19 @@ public final class FormulaWorks {
     // ---- factors, parts, integrals
 
     public int factors(int f) throws IndexOutOfBoundsException, IllegalArgumentException {
-        parts.factor(ofKind(f, FRACTION));
+        parts.find(ofKind(f, FRACTION).factored(), false);
         return parts.found;
     }
 
     public int factor(int f, int k)
             throws IndexOutOfBoundsException, IllegalArgumentException, IllegalStateException {
-        parts.factor(ofKind(f, FRACTION));
+        parts.find(ofKind(f, FRACTION).factored(), false);
         needBelow(k, parts.found);
         return keepWhole(parts.factors[k]);
     }
 
     public int often(int f, int k) throws IndexOutOfBoundsException, IllegalArgumentException {
-        parts.factor(ofKind(f, FRACTION));
+        parts.find(ofKind(f, FRACTION).factored(), false);
         needBelow(k, parts.found);
         return parts.times[k];
     }
@@ -256,7 +256,7 @@ public final class FormulaWorks {
             throws IndexOutOfBoundsException, IllegalArgumentException, IllegalStateException {
         Thing a = ofKind(f, FRACTION);
         if (a.isWhole()) throw new IndexOutOfBoundsException();
-        parts.factor(a);
+        parts.find(a.factored(), false);
         needBelow(k, parts.found);
         if (j < 1 || j > parts.times[k]) throw new IndexOutOfBoundsException();
         parts.setPart(a, k, j, wide);
@@ -275,7 +275,7 @@ public final class FormulaWorks {
     public int log(int f, int k) throws IndexOutOfBoundsException, IllegalArgumentException {
         parts.separate(ofKind(f, FRACTION), result, spare);
         if (spare.isWhole()) throw new IndexOutOfBoundsException();
-        parts.factorAnew(spare.bottom);
+        parts.find(spare.bottom, true);
         needBelow(k, parts.found);
         return parts.logOf(spare, parts.factors[k]);
     }
@@ -383,14 +383,14 @@ public final class FormulaWorks {
         Thing a = ofKind(m, MATRIX);
         needBelow(i, a.rows);
         needBelow(j, a.columns);
-        return keepWhole(a.entry(i, j));
+        return keepWhole(a.entryAt(i, j));
     }
 
     public int turned(int m) throws IndexOutOfBoundsException, IllegalArgumentException, IllegalStateException {
         Thing a = ofKind(m, MATRIX);
         Thing turned = new Thing(a.columns, a.rows, new Poly[a.columns * a.rows]);
         for (int i = 0; i < a.columns; i++) {
-            for (int j = 0; j < a.rows; j++) turned.setEntry(i, j, a.entry(j, i));
+            for (int j = 0; j < a.rows; j++) turned.setEntry(i, j, a.entryAt(j, i));
         }
         return keep(turned);
     }
@@ -499,7 +499,7 @@ public final class FormulaWorks {
         Thing b = thing(s);
         needRule(a);
         needKind(b, SERIES);
-        Poly last = a.entry(0, a.columns - 1);
+        Poly last = a.entryAt(0, a.columns - 1);
         for (int n = 0; n <= NUMBERS - a.columns; n++) {
             if (last.valueAt(n) == 0) throw new ArithmeticException();
         }
@@ -630,7 +630,7 @@ public final class FormulaWorks {
     public int cell(int c, int what) throws IndexOutOfBoundsException, IllegalArgumentException {
         needBelow(c, CELLS);
         if (what < 0 || what > 3) throw new IllegalArgumentException();
-        if (what == 3) return Integer.bitCount(sheet.hangs(c));
+        if (what == 3) return Integer.bitCount(sheet.hangs[c]);
         sheet.ask(c);
         if (what == 0) return sheet.stateOf(c);
         return what == 1 ? sheet.faultOf(c) : sheet.placeOf(c);
@@ -732,7 +732,7 @@ public final class FormulaWorks {
 
     private static void needRule(Thing m) {
         if (m.kind != MATRIX || m.rows != 1) throw new IllegalArgumentException();
-        if (m.entry(0, m.columns - 1).degree < 0) throw new IllegalArgumentException();
+        if (m.entryAt(0, m.columns - 1).degree < 0) throw new IllegalArgumentException();
     }
 
     private static void needTerms(Thing f, int n) {
@@ -780,7 +780,7 @@ public final class FormulaWorks {
 
     private static int[] joinedSeries(int sign, int[] a, int[] b) {
         if (sign == '*') return Series.product(a, b);
-        if (sign != '/') return Series.sum(a, b, sign == '+' ? 1 : PRIME - 1);
+        if (sign != '/') return Series.plus(a, b, sign == '+' ? 1 : PRIME - 1);
         if (b[0] == 0) throw new ArithmeticException();
         return Series.quotient(a, b);
     }
@@ -910,9 +910,8 @@ public final class FormulaWorks {
         }
 
         void setCopy(Poly a) {
-            int d = a.degree < c.length ? a.degree : c.length - 1;
-            for (int i = 0; i <= d; i++) c[i] = a.c[i];
-            trim(d);
+            degree = a.degree < c.length ? a.degree : -1;
+            for (int i = 0; i <= degree; i++) c[i] = a.c[i];
         }
 
         Poly kept() {
@@ -931,20 +930,19 @@ public final class FormulaWorks {
 
         /** Is a * b then; it must be neither. */
         void setProduct(Poly a, Poly b) {
-            int d = a.degree < 0 || b.degree < 0 ? -1 : a.degree + b.degree;
-            if (d >= c.length) d = c.length - 1;
-            for (int k = d; k >= 0; k--) {
+            degree = a.degree < 0 || b.degree < 0 ? -1 : a.degree + b.degree;
+            if (degree >= c.length) degree = -1;
+            for (int k = degree; k >= 0; k--) {
                 long sum = 0;
                 int last = k < a.degree ? k : a.degree;
                 for (int i = k > b.degree ? k - b.degree : 0; i <= last; i++) sum += a.c[i] * b.c[k - i];
                 c[k] = (int) (sum % PRIME);
             }
-            trim(d);
         }
 
         void scale(int factor) {
+            if (factor == 0) degree = -1;
             for (int i = 0; i <= degree; i++) c[i] = c[i] * factor % PRIME;
-            trim(degree);
         }
 
         void makeMonic() {
@@ -982,7 +980,7 @@ public final class FormulaWorks {
         /** Leaves what is left of it by g; inverse is that of g's first number, quotient may be null. */
         void reduceBy(Poly g, int inverse, Poly quotient) {
             int d = g.degree < 0 ? -1 : degree - g.degree;
-            if (quotient != null && d >= quotient.c.length) d = -1;
+            if (d < 0 || quotient != null && d >= quotient.c.length) d = -1;
             for (int k = d; k >= 0; k--) {
                 int q = c[k + g.degree] * inverse % PRIME;
                 if (quotient != null) quotient.c[k] = q;
@@ -990,8 +988,8 @@ public final class FormulaWorks {
                     for (int i = 0; i <= g.degree; i++) c[k + i] = (c[k + i] + (PRIME - q) * g.c[i]) % PRIME;
                 }
             }
-            if (quotient != null) quotient.trim(d);
-            trim(degree);
+            if (quotient != null) quotient.degree = d;
+            while (degree >= 0 && c[degree] == 0) degree--;
         }
 
         boolean sameAs(Poly a) {
@@ -1070,10 +1068,9 @@ public final class FormulaWorks {
             return bottom.degree == 0;
         }
 
-        void setWhole(Poly p) {
-            top.setCopy(p);
-            bottom.setNumber(1);
-            fault = FINE;
+        /** That whose factors are those of the fraction. */
+        Poly factored() {
+            return bottom.degree == 0 ? top : bottom;
         }
 
         void setFraction(Poly above, Poly below) {
@@ -1082,7 +1079,7 @@ public final class FormulaWorks {
             fault = FINE;
         }
 
-        Poly entry(int i, int j) {
+        Poly entryAt(int i, int j) {
             return entries[i * columns + j];
         }
 
@@ -1135,10 +1132,9 @@ public final class FormulaWorks {
         }
 
         Poly lend() {
-            if (lent >= LENT) return new Poly(WIDE);
-            Poly p = rows[lent];
-            lent++;
-            p.setNumber(0);
+            if (lent < LENT) lent++;
+            Poly p = rows[lent - 1];
+            p.degree = -1;
             return p;
         }
 
@@ -1150,13 +1146,13 @@ public final class FormulaWorks {
             x.setCopy(a);
             y.setCopy(b);
             for (int turn = 0; turn < 2 * WIDE && y.degree >= 0; turn++) {
-                x.reduceBy(y, Poly.inverseOf(y.lead()), null);
+                x.reduceBy(y, Poly.inverseOf(y.c[y.degree]), null);
                 Poly z = x;
                 x = y;
                 y = z;
             }
             out.setCopy(x);
-            out.makeMonic();
+            if (x.degree >= 0) out.scale(Poly.inverseOf(x.c[x.degree]));
             release(mark);
         }
 
@@ -1500,16 +1496,10 @@ public final class FormulaWorks {
             for (int i = 0; i <= HIGHEST; i++) conjugates[i] = new Poly(HIGHEST);
         }
 
-        /** Finds the factors of a thing, which never changes: it needn't be done twice in a row. */
-        void factor(Thing f) {
-            Poly p = f.isWhole() ? f.top : f.bottom;
-            if (p == latest) return;
-            factorAnew(p);
-            latest = p;
-        }
-
-        void factorAnew(Poly p) {
-            latest = null;
+        /** Finds factors; those of one that never changes needn't be found twice in a row. */
+        void find(Poly p, boolean changes) {
+            if (p == latest && !changes) return;
+            latest = changes ? null : p;
             found = 0;
             if (p.degree < 1) return;
             int mark = algebra.mark();
@@ -1582,8 +1572,12 @@ public final class FormulaWorks {
         }
 
         private void multiply(Poly a, Poly b, Poly m) {
-            algebra.multiply(a, b);
-            a.reduceBy(m, 1, null);
+            int mark = algebra.mark();
+            Poly product = algebra.lend();
+            product.setProduct(a, b);
+            product.reduceBy(m, 1, null);
+            a.setCopy(product);
+            algebra.release(mark);
         }
 
         private void setRaised(Poly a, int n, Poly m, Poly out) {
@@ -1802,7 +1796,7 @@ public final class FormulaWorks {
             boolean added = plus;
             for (int j = 0; j < m.columns; j++) {
                 if ((mask >> j & 1) == 1) {
-                    product.setProduct(m.entry(row, j), minor[mask ^ 1 << j]);
+                    product.setProduct(m.entryAt(row, j), minor[mask ^ 1 << j]);
                     sum.setSum(sum, product, added ? 1 : PRIME - 1);
                     added = !added;
                 }
@@ -1908,7 +1902,7 @@ public final class FormulaWorks {
             Thing all = empty(a.rows, a.columns);
             for (int i = 0; i < a.rows; i++) {
                 for (int j = 0; j < a.columns; j++) {
-                    sum.setSum(a.entry(i, j), b.entry(i, j), factor);
+                    sum.setSum(a.entryAt(i, j), b.entryAt(i, j), factor);
                     all.setEntry(i, j, sum.kept());
                 }
             }
@@ -1925,7 +1919,7 @@ public final class FormulaWorks {
                 for (int j = 0; j < b.columns; j++) {
                     sum.setNumber(0);
                     for (int k = 0; k < a.columns && k < b.rows; k++) {
-                        product.setProduct(a.entry(i, k), b.entry(k, j));
+                        product.setProduct(a.entryAt(i, k), b.entryAt(k, j));
                         sum.setSum(sum, product, 1);
                     }
                     all.setEntry(i, j, sum.kept());
@@ -1943,7 +1937,7 @@ public final class FormulaWorks {
                 for (int j = 0; j < m.columns; j++) {
                     if (i == j) start.setPower(1);
                     else start.setNumber(0);
-                    start.setSum(start, m.entry(i, j), PRIME - 1);
+                    start.setSum(start, m.entryAt(i, j), PRIME - 1);
                     all.setEntry(i, j, start.kept());
                 }
             }
@@ -1996,7 +1990,7 @@ public final class FormulaWorks {
                     System.arraycopy(sum[i], 0, row, 0, n);
                     for (int j = 0; j < n; j++) {
                         long all = i == j ? f.coefficient(power) : 0;
-                        for (int k = 0; k < n; k++) all += row[k] * m.entry(k, j).coefficient(0);
+                        for (int k = 0; k < n; k++) all += row[k] * m.entryAt(k, j).coefficient(0);
                         sum[i][j] = (int) (all % PRIME);
                     }
                 }
@@ -2051,7 +2045,7 @@ public final class FormulaWorks {
             image.setCopy(f);
             out.setNumber(0);
             for (int k = 0; k < m.columns; k++) {
-                product.setProduct(m.entry(0, k), image);
+                product.setProduct(m.entryAt(0, k), image);
                 out.setSum(out, product, 1);
                 if (how == 0) image.shift(1);
                 else image.makeSlope();
@@ -2124,7 +2118,7 @@ public final class FormulaWorks {
             Poly shifted = algebra.lend();
             bottom.setNumber(1);
             for (int k = 0; k < m.columns; k++) {
-                term.setCopy(m.entry(0, k));
+                term.setCopy(m.entryAt(0, k));
                 for (int i = 0; i < m.columns; i++) {
                     setShifted(i == k ? f.top : f.bottom, i, shifted);
                     algebra.multiply(term, shifted);
@@ -2153,7 +2147,7 @@ public final class FormulaWorks {
                     algebra.multiply(top, f.bottom);
                     algebra.multiply(bottom, f.bottom);
                 }
-                term.setProduct(m.entry(0, k), slope);
+                term.setProduct(m.entryAt(0, k), slope);
                 top.setSum(top, term, 1);
             }
             algebra.settle(top, bottom, out);
@@ -2169,7 +2163,7 @@ public final class FormulaWorks {
             Poly shifted = algebra.lend();
             bottom.setNumber(1);
             for (int k = 0; k < m.columns; k++) {
-                term.setCopy(m.entry(0, k));
+                term.setCopy(m.entryAt(0, k));
                 for (int i = 0; i < m.columns - 1; i++) {
                     setShifted(i < k ? f.top : f.bottom, i, shifted);
                     algebra.multiply(term, shifted);
@@ -2191,7 +2185,7 @@ public final class FormulaWorks {
             int greatest = -HIGHEST_ENTRY - 1;
             for (int i = 0; i < m.columns; i++) {
                 for (int j = 0; j <= HIGHEST_ENTRY; j++) {
-                    if (m.entry(0, i).coefficient(j) != 0) {
+                    if (m.entryAt(0, i).coefficient(j) != 0) {
                         least = Math.min(least, i - j);
                         greatest = Math.max(greatest, i - j);
                     }
@@ -2212,7 +2206,7 @@ public final class FormulaWorks {
             Poly factor = algebra.lend();
             falling.setNumber(1);
             for (int i = 0; i < m.columns; i++) {
-                sum.setSum(sum, falling, m.entry(0, i).coefficient(i - difference));
+                sum.setSum(sum, falling, m.entryAt(0, i).coefficient(i - difference));
                 factor.setPower(1);
                 factor.shift(k - i);
                 algebra.multiply(falling, factor);
@@ -2247,7 +2241,7 @@ public final class FormulaWorks {
             }
             b.shift(-1);
             out.fault = NONE;
-            if (d.degree <= most && sum(a, b, d, out).fault == FINE) {
+            if (d.degree <= most && solveSum(a, b, d, out).fault == FINE) {
                 algebra.multiply(b, out.top);
                 algebra.settle(b, d, out);
             }
@@ -2256,7 +2250,7 @@ public final class FormulaWorks {
         }
 
         /** The q for which a times q with x + 1 in place of x, less b times q, is d. */
-        private Thing sum(Poly a, Poly b, Poly d, Thing out) {
+        private Thing solveSum(Poly a, Poly b, Poly d, Thing out) {
             int mark = algebra.mark();
             Poly power = algebra.lend();
             Poly left = algebra.lend();
@@ -2343,7 +2337,7 @@ public final class FormulaWorks {
             return quotient(numbersOf(f.top), numbersOf(f.bottom));
         }
 
-        static int[] sum(int[] a, int[] b, int factor) {
+        static int[] plus(int[] a, int[] b, int factor) {
             int[] s = new int[NUMBERS];
             for (int n = 0; n < NUMBERS; n++) s[n] = (a[n] + factor * b[n]) % PRIME;
             return s;
@@ -2444,7 +2438,7 @@ public final class FormulaWorks {
             int[] s = new int[NUMBERS];
             int[] slope = a;
             for (int k = 0; k < m.columns; k++) {
-                s = sum(s, product(numbersOf(m.entry(0, k)), slope), 1);
+                s = plus(s, product(numbersOf(m.entryAt(0, k)), slope), 1);
                 slope = slopeOf(slope);
             }
             return s;
@@ -2454,7 +2448,7 @@ public final class FormulaWorks {
         private static int comesTo(Thing m, int polys, int[] s, int n) {
             int all = 0;
             for (int k = 0; k < polys && n + k < s.length; k++) {
-                all = (all + m.entry(0, k).valueAt(n) * s[n + k]) % PRIME;
+                all = (all + m.entryAt(0, k).valueAt(n) * s[n + k]) % PRIME;
             }
             return all;
         }
@@ -2465,7 +2459,7 @@ public final class FormulaWorks {
             int order = m.columns - 1;
             for (int n = 0; n < order && n < NUMBERS; n++) s[n] = a[n];
             for (int n = 0; n + order < NUMBERS; n++) {
-                int inverse = Poly.inverseOf(m.entry(0, order).valueAt(n));
+                int inverse = Poly.inverseOf(m.entryAt(0, order).valueAt(n));
                 s[n + order] = (PRIME - comesTo(m, order, s, n)) % PRIME * inverse % PRIME;
             }
             return s;
@@ -2605,7 +2599,8 @@ public final class FormulaWorks {
         }
 
         int second(int n) {
-            return isPair(n) ? n + 1 + sizeOf(n + 1) : -1;
+            int sort = sort(n);
+            return sort >= SUM && sort <= QUOTIENT ? n + 1 + sizeOf(n + 1) : -1;
         }
 
         /** The last node in it. */
@@ -2860,9 +2855,15 @@ public final class FormulaWorks {
             for (int turn = 0; turn < 8 * ROOM && waits > 0; turn++) {
                 waits--;
                 int next = waiting[waits];
-                if (next < 0) show(-next);
-                else if ((next & 1) == 1) showBracketed(next >> 1);
-                else showNode(next >> 1);
+                if (next < 0) {
+                    show(-next);
+                } else {
+                    if ((next & 1) == 1) {
+                        show('(');
+                        await(-')');
+                    }
+                    showNode(next >> 1);
+                }
             }
         }
 
@@ -2870,12 +2871,6 @@ public final class FormulaWorks {
             if (waits >= waiting.length) return;
             waiting[waits] = what;
             waits++;
-        }
-
-        private void showBracketed(int n) {
-            show('(');
-            await(-')');
-            showNode(n);
         }
 
         private void showNode(int n) {
@@ -3252,6 +3247,8 @@ public final class FormulaWorks {
         private final int[][] texts = new int[CELLS][MOST_CELL_TEXT];
         private final int[] lengths = new int[CELLS];
         private final int[] named = new int[CELLS];
+        /** All on which a cell hangs. */
+        final int[] hangs = new int[CELLS];
         private final Thing[] fractions = new Thing[CELLS];
         private final int[] faults = new int[CELLS];
         private final int[] places = new int[CELLS];
@@ -3273,63 +3270,65 @@ public final class FormulaWorks {
                 if (b >= 'A' && b < 'A' + CELLS) named[c] |= 1 << b - 'A';
             }
             for (int i = 0; i < CELLS; i++) {
-                if (i == c || (hangs(i) >> c & 1) == 1) fresh &= ~(1 << i);
+                findHanging(i);
+                if (i == c || (hangs[i] >> c & 1) == 1) fresh &= ~(1 << i);
             }
         }
 
-        /** The cells on which one hangs. */
-        int hangs(int c) {
+        private void findHanging(int c) {
             int all = named[c];
             for (int turn = 0; turn < CELLS; turn++) {
                 for (int i = 0; i < CELLS; i++) {
                     if ((all >> i & 1) == 1) all |= named[i];
                 }
             }
-            return all;
+            hangs[c] = all;
         }
 
         private boolean isInCircle(int c) {
-            return (hangs(c) >> c & 1) == 1;
+            return (hangs[c] >> c & 1) == 1;
         }
 
         private boolean isDue(int c) {
             return lengths[c] > 0 && (fresh >> c & 1) == 0 && !isInCircle(c);
         }
 
-        /** Works what is due for a cell: none that names one that is still due. */
+        /** Works what is due for a cell, and that. */
         void ask(int c) {
-            int asked = isDue(c) ? 1 << c : 0;
-            for (int turn = 0; turn < CELLS; turn++) {
-                for (int i = 0; i < CELLS; i++) {
-                    int naming = (asked >> i & 1) == 1 ? named[i] & ~asked : 0;
-                    for (int k = 0; k < CELLS && naming != 0; k++) {
-                        if ((naming >> k & 1) == 1 && isDue(k)) asked |= 1 << k;
-                    }
+            int next = nextFor(c);
+            for (int turn = 0; turn < CELLS && next >= 0; turn++) {
+                worked++;
+                fresh |= 1 << next;
+                reader.begin(texts[next], lengths[next], Reader.LETTERS, 0);
+                int met = reader.run();
+                for (int i = 0; i < MOST_CELL_TEXT && met >= 0; i++) {
+                    reader.give(fractionOf(met));
+                    met = reader.run();
                 }
-            }
-            for (int turn = 0; turn < CELLS && asked != 0; turn++) {
-                for (int i = 0; i < CELLS; i++) {
-                    if ((asked >> i & 1) == 1 && (named[i] & asked) == 0) {
-                        work(i);
-                        asked &= ~(1 << i);
-                    }
-                }
+                faults[next] = reader.fault;
+                places[next] = reader.faultPlace;
+                Thing sum = reader.values[0];
+                if (reader.fault == FINE) fractions[next].setFraction(sum.top, sum.bottom);
+                next = nextFor(c);
             }
         }
 
-        private void work(int c) {
-            worked++;
-            fresh |= 1 << c;
-            reader.begin(texts[c], lengths[c], Reader.LETTERS, 0);
-            for (int turn = 0; turn <= MOST_CELL_TEXT; turn++) {
-                int met = reader.run();
-                if (met < 0) break;
-                reader.give(fractionOf(met));
+        /** A cell that is due for one, or that itself, naming none that is due; -1 without. */
+        private int nextFor(int c) {
+            int next = isDue(c) ? c : -1;
+            for (int turn = 0; turn < CELLS && next >= 0; turn++) {
+                int ahead = dueNamedBy(next);
+                if (ahead < 0) break;
+                next = ahead;
             }
-            faults[c] = reader.fault;
-            places[c] = reader.faultPlace;
-            Thing sum = reader.values[0];
-            if (reader.fault == FINE) fractions[c].setFraction(sum.top, sum.bottom);
+            return next;
+        }
+
+        private int dueNamedBy(int c) {
+            for (int i = 0; i < CELLS; i++) {
+                if ((named[c] >> i & 1) == 1 && isDue(i)) return i;
+            }
+            return -1;
         }
 
         /** 0 for an empty one, 1 for one that has a fraction, 2 for one with a fault. */
