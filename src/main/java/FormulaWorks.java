@@ -881,7 +881,7 @@ public final class FormulaWorks {
         }
 
         int lead() {
-            return coefficient(degree);
+            return degree < 0 ? 0 : c[degree];
         }
 
         /** Sets the degree, at most a highest power that may be 0. */
@@ -1111,9 +1111,9 @@ public final class FormulaWorks {
         }
     }
 
-    /** Polynomials and fractions; it lends rows, so that no call makes its own. */
+    /** Polynomials and fractions; it lends rows (at most 10 are lent at once), so that no call makes its own. */
     private static final class Algebra {
-        private static final int LENT = 40;
+        private static final int LENT = 16;
 
         private final Poly[] rows = new Poly[LENT];
         private int lent;
@@ -1146,13 +1146,13 @@ public final class FormulaWorks {
             x.setCopy(a);
             y.setCopy(b);
             for (int turn = 0; turn < 2 * WIDE && y.degree >= 0; turn++) {
-                x.reduceBy(y, Poly.inverseOf(y.c[y.degree]), null);
+                x.reduceBy(y, Poly.inverseOf(y.lead()), null);
                 Poly z = x;
                 x = y;
                 y = z;
             }
             out.setCopy(x);
-            if (x.degree >= 0) out.scale(Poly.inverseOf(x.c[x.degree]));
+            if (x.degree >= 0) out.scale(Poly.inverseOf(x.lead()));
             release(mark);
         }
 
@@ -2784,7 +2784,7 @@ public final class FormulaWorks {
         void simplify(int[] codes) {
             load(codes);
             rowCount = 0;
-            for (int turn = 0; turn < MOST_NODES && simplifyOnce(); turn++) measure();
+            for (int turn = 0; turn < MOST_NODES && simplifyOnce(); turn++) continue;
         }
 
         private boolean simplifyOnce() {
