@@ -1220,13 +1220,14 @@ public final class FormulaWorks {
                     setInverse(s, cut, s);
                 }
             }
-            out.setCopy(s);
-            if (!first) {
+            if (first) {
+                out.setCopy(s);
+            } else if (g.degree < 0) {
+                out.setNumber(0);
+            } else {
                 cut.setProduct(s, f);
                 cut.setSum(common, cut, PRIME - 1);
-                if (g.degree < 0) cut.setNumber(0);
-                else setDivided(cut, g, true, cut);
-                out.setCopy(cut);
+                setDivided(cut, g, true, out);
             }
             release(mark);
         }
@@ -2784,7 +2785,9 @@ public final class FormulaWorks {
         void simplify(int[] codes) {
             load(codes);
             rowCount = 0;
-            for (int turn = 0; turn < MOST_NODES && simplifyOnce(); turn++) continue;
+            for (int turn = 0; turn < MOST_NODES; turn++) {
+                if (!simplifyOnce()) break;
+            }
         }
 
         private boolean simplifyOnce() {

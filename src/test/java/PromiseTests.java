@@ -481,6 +481,10 @@ public final class PromiseTests {
         due(w.resultant(read("x-5"), f), 24);
         due(w.resultant(read("2*x-10"), read("x^3")), 1000);
         due(w.resultant(read("x^3"), read("2*x-10")), PRIME - 1000);
+        int two = read("2*x^2+3*x+1");
+        int three = read("5*x^3-x+7");
+        due(w.resultant(two, three) + " " + w.resultant(three, two), "165 165");
+        due(w.resultant(three, read("3*x^4+2*x-1")), 13029);
         due(w.resultant(w.number(3), f), 9);
         due(w.resultant(f, w.number(3)), 9);
         due(w.resultant(w.number(3), w.number(5)), 1);
@@ -1485,6 +1489,8 @@ public final class PromiseTests {
         due(w.same(m, matrix(1, 1, "x")), true);
         due(w.same(m, matrix(1, 1, "1")), false);
         due(w.same(matrix(1, 2, "x", "x"), matrix(2, 1, "x", "x")), false);
+        due(w.same(matrix(1, 2, "x", "x"), matrix(1, 1, "x")), false);
+        due(w.same(matrix(1, 1, "x"), matrix(2, 1, "x", "x")), false);
         due(w.same(t, formula("(x)")), true);
         due(w.same(formula("x+1"), formula("1+x")), false);
         due(w.same(formula("x^2"), formula("x^3")), false);
