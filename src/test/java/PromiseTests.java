@@ -134,29 +134,21 @@ public final class PromiseTests {
     }
 
     private static String faultOf(String text) {
-        type(text);
-        try {
-            w.read();
-            return "none";
-        } catch (IllegalArgumentException e) {
-            return w.fault(0) + " at " + w.fault(1);
-        }
+        return faultOf(text, () -> w.read());
     }
 
     private static String faultOfFormula(String text) {
-        type(text);
-        try {
-            w.formula();
-            return "none";
-        } catch (IllegalArgumentException e) {
-            return w.fault(0) + " at " + w.fault(1);
-        }
+        return faultOf(text, () -> w.formula());
     }
 
     private static String faultOfClaim(String text) {
+        return faultOf(text, () -> w.claim());
+    }
+
+    private static String faultOf(String text, Call call) {
         type(text);
         try {
-            w.claim();
+            call.run();
             return "none";
         } catch (IllegalArgumentException e) {
             return w.fault(0) + " at " + w.fault(1);
@@ -356,6 +348,9 @@ public final class PromiseTests {
         due(entries(w.less(m, m)), "0 0");
         thrown(NO_ARGUMENT, () -> w.add(m, n));
         thrown(NO_ARGUMENT, () -> w.less(m, n));
+        int narrow = matrix(1, 1, "x");
+        thrown(NO_ARGUMENT, () -> w.add(m, narrow));
+        thrown(NO_ARGUMENT, () -> w.less(narrow, n));
         thrown(NO_ARGUMENT, () -> w.add(f, a));
         thrown(NO_ARGUMENT, () -> w.add(a, m));
         int t = formula("x");
@@ -713,6 +708,7 @@ public final class PromiseTests {
         int g = read("1/(x-2)");
         due(w.sum(g, 3) >= 0, true);
         thrown(NO_QUOTIENT, () -> w.sum(g, 4));
+        due(w.sum(f, 60) >= 0, true);
         thrown(NO_ARGUMENT, () -> w.sum(f, 61));
         thrown(NO_ARGUMENT, () -> w.sum(f, -1));
         int zero = w.number(0);
@@ -828,6 +824,8 @@ public final class PromiseTests {
         thrown(NO_INDEX, () -> w.entry(m, 0, 3));
         thrown(NO_INDEX, () -> w.entry(m, -1, 0));
         thrown(NO_INDEX, () -> w.entry(-1, 0, 0));
+        thrown(NO_ARGUMENT, () -> w.matrix(0, 1));
+        thrown(NO_ARGUMENT, () -> w.matrix(1, 0));
         int f = read("x");
         thrown(NO_ARGUMENT, () -> w.entry(f, 9, 9));
         w.take(f);
