@@ -8,8 +8,7 @@ import java.util.Map;
 
 /**
  * Long runs of calls, each with the answer that is due. The answers in src/test/data/runs.txt come
- * from a second program that was written from the document by itself, in plainer ways: determinants
- * by permutations, parts by Hermite, guesses by Euclid, trees by recursion.
+ * from src/test/model/model.py, a second program that was written from the document in plainer ways.
  */
 public final class RunsTest {
     private static final Map<String, Method> CALLS = new HashMap<>();
@@ -21,7 +20,7 @@ public final class RunsTest {
 
     public static void main(String[] args) throws Exception {
         for (Method m : FormulaWorks.class.getMethods()) CALLS.put(m.getName(), m);
-        List<String> lines = Files.readAllLines(Path.of("src/test/data/runs.txt"));
+        List<String> lines = Files.readAllLines(Path.of(args.length > 0 ? args[0] : "src/test/data/runs.txt"));
         FormulaWorks works = new FormulaWorks();
         int run = 0;
         int wrong = 0;
