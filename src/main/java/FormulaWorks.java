@@ -44,7 +44,6 @@ public final class FormulaWorks {
     private final Poly[] taken = new Poly[MOST_TAKEN];
     private int takenCount;
     private final Algebra algebra;
-    private final Linear linear;
     private final Parts parts;
     private final Minors minors;
     private final Rules rules;
@@ -58,7 +57,7 @@ public final class FormulaWorks {
 
     public FormulaWorks() {
         algebra = new Algebra();
-        linear = new Linear();
+        Linear linear = new Linear();
         parts = new Parts(algebra, linear);
         minors = new Minors(algebra);
         rules = new Rules(algebra, linear);
