@@ -546,6 +546,9 @@ public final class PromiseTests {
         due(w.factors(read("x^4*(x-1)")), 2);
         due(w.factors(read("x^2+1")), 1);
         due(w.factors(read("x^2-2")), 1);
+        int prime = read("x^40+x+19");
+        due(w.factors(prime), 1);
+        due(w.same(w.factor(prime, 0), prime), true);
         due(w.factors(read("5*(x^2-4)")), 2);
         due(w.factors(read("(x-1)/(x^2*(x+1)*(x+2))")), 3);
         int s = series("x");
@@ -622,6 +625,8 @@ public final class PromiseTests {
         int high = read("x^40");
         thrown(NO_STATE, () -> w.core(high));
         due(shown(w.rest(high)), "0");
+        int deep = read("(x^39+2)/(x^40-1)");
+        due(w.same(w.rest(deep), deep), true);
         int s = series("x");
         thrown(NO_ARGUMENT, () -> w.core(s));
         thrown(NO_ARGUMENT, () -> w.rest(s));
@@ -673,6 +678,10 @@ public final class PromiseTests {
         int c = w.closed(read("(x^2+1)/(x^2-2*x+2)"));
         int f = read("(x^2+1)/(x^2-2*x+2)");
         due(shown(w.less(w.times(w.put(c, read("x+1")), f), c)), "1");
+        int top = read("x^10+1");
+        int slope = read("(x+1)^15*((x+1)^10+1)-#" + top);
+        int next = w.put(slope, read("x+1"));
+        due(w.same(w.closed(read("(x+1)^15*#" + next + "/#" + slope)), w.over(top, slope)), true);
         int before = w.count();
         int zero = w.number(0);
         thrown(NO_ARGUMENT, () -> w.closed(zero));
@@ -1077,6 +1086,9 @@ public final class PromiseTests {
         due(entries(w.rule(e, 1, 1)), "32002 x+1");
         due(entries(w.rule(series("x^2"), 0, 1)), "x+32001");
         due(entries(w.rule(series("0"), 3, 4)), "1");
+        int first = series("1");
+        due(w.rule(first, 0, 0), -1);
+        due(entries(w.rule(first, 0, 1)), "x");
         int before = w.count();
         due(w.rule(e, 1, 0), -1);
         due(w.count(), before);
